@@ -1369,15 +1369,16 @@ public final class BothSides {
                 return 1;
             }
             int sum = 0;
-            for (int way = 0; way < WAYS; way++) {
-                int line = drawing.lineBy(hole, way);
-                long bit = line == NONE ? 0 : 1L << line;
-                int to = drawing.otherEnd(line, hole);
-                if (nextOver && (over & bit) != 0) {
-                    sum += workings(drawing, over ^ bit, under, to, false, depth + 1);
-                } else if (!nextOver && (under & bit) != 0) {
-                    sum += workings(drawing, over, under ^ bit, to, true, depth + 1);
+            long open = drawing.linesAt(hole) & (nextOver ? over : under);
+            for (int k = 0; k < WAYS && open != 0; k++) {
+                long line = open & -open;
+                int to = drawing.otherEnd(lowest(line), hole);
+                if (nextOver) {
+                    sum += workings(drawing, over ^ line, under, to, false, depth + 1);
+                } else {
+                    sum += workings(drawing, over, under ^ line, to, true, depth + 1);
                 }
+                open ^= line;
             }
             return sum;
         }
