@@ -190,7 +190,7 @@ public final class BothSides {
     public void begin(int hole, int ink, boolean over) throws NoSuchElementException, IllegalArgumentException {
         checkHole(hole);
         checkInk(ink);
-        needle.thread(hole, ink, over);
+        needle.start(hole, ink, over);
     }
 
     public int cut() throws IllegalStateException {
@@ -552,10 +552,9 @@ public final class BothSides {
             System.arraycopy(other.knotted, 0, knotted, 0, HOLES);
         }
 
-        /** A new LINE from a HOLE by a WAY, where there is none yet. */
-        void draw(int hole, int way, int ink) {
-            int end = step(hole, way);
-            if (end == NONE || ink < 0 || ink >= ofInk.length || lines < 0 || lines >= MOST_LINES) {
+        /** A new LINE from a HOLE by a WAY to its end, where there is none yet. */
+        void draw(int hole, int way, int end, int ink) {
+            if (ink < 0 || ink >= ofInk.length || lines < 0 || lines >= MOST_LINES) {
                 return;
             }
             from[lines] = hole;
@@ -802,7 +801,7 @@ public final class BothSides {
         private final Script script;
         private int end;
         private int next;
-        /** The TOKEN: its kind (a sign is its own), its place, its word or number. */
+        /** The TOKEN: its kind (a sign is its own), its place, its number. */
         private int kind;
         private int place;
         private int value;
@@ -821,9 +820,20 @@ public final class BothSides {
             fault = 0;
             faultPlace = NONE;
             script.clear();
-            boolean more = true;
-            for (int k = 0; k <= end && more; k++) {
-                more = statement();
+            for (int k = 0; k <= end && fault == 0; k++) {
+                token();
+                if (kind == END && depth == 0) {
+                    return;
+                }
+                int word = kind == WORD ? wordTold() : NONE;
+                if (kind == ')' && depth > 0) {
+                    sign(';');
+                    closeBlock();
+                } else if (word != NONE) {
+                    worded(word, place);
+                } else {
+                    fail(2);
+                }
             }
         }
 
@@ -834,23 +844,7 @@ public final class BothSides {
             }
         }
 
-        /** Reads a statement's head and what it tells, or a block's end; false behind the last one. */
-        private boolean statement() {
-            token();
-            if (kind == END && depth == 0) {
-                return false;
-            }
-            if (kind == ')' && depth > 0) {
-                sign(';');
-                closeBlock();
-            } else if (kind == WORD && value != NONE) {
-                worded(value, place);
-            } else {
-                fail(2);
-            }
-            return fault == 0;
-        }
-
+        /** Reads what a statement tells behind its word, or up to the block's beginning. */
         private void worded(int word, int at) {
             int one = 1;
             int two = 0;
@@ -916,7 +910,7 @@ public final class BothSides {
             if (next >= end) {
                 kind = END;
             } else if (isLetter(c)) {
-                word();
+                letters();
             } else if (isDigit(c)) {
                 digits();
             } else {
@@ -934,17 +928,20 @@ public final class BothSides {
             }
         }
 
-        private void word() {
+        private void letters() {
             for (int k = next; k < end && isLetter(byteAt(k)); k++) {
                 next = k + 1;
             }
             kind = WORD;
-            value = NONE;
+        }
+
+        private int wordTold() {
             for (int word = 0; word < WORDS; word++) {
                 if (isSpelled(nameOf(word))) {
-                    value = word;
+                    return word;
                 }
             }
+            return NONE;
         }
 
         private boolean isSpelled(String name) {
@@ -1087,7 +1084,7 @@ public final class BothSides {
                 fault = 7;
             } else {
                 if (isNew) {
-                    paper.draw(hole, way, ink);
+                    paper.draw(hole, way, to, ink);
                 }
                 steps++;
                 hole = to;
@@ -1133,7 +1130,7 @@ public final class BothSides {
             System.arraycopy(other.ways, 0, ways, 0, MOST_STITCHES);
         }
 
-        void thread(int where, int ofInk, boolean startsOver) {
+        void start(int where, int ofInk, boolean startsOver) {
             if (there) {
                 snip();
             }
@@ -1563,7 +1560,7 @@ public final class BothSides {
         private void goOn(int set, int stitch, int from, int to) {
             int face = stitch & 1;
             int more = set | 1 << stitch;
-            if (more != set && (reachedBy(set) >> 2 * from + face & 1) != 0 && more < SETS) {
+            if (more != set && (reachedBy(set) >> 2 * from + face & 1) != 0 && more >= 0 && more < SETS) {
                 reached[more] |= 1 << 2 * to + 1 - face;
             }
         }

@@ -136,6 +136,12 @@ public final class DrawingTest {
         x = Check.drawn("times 12(east 1;north 1;west 1;turn(west 1;););times 3(northeast 2;);");
         C.due("p3 repeats", x.count(0), 4 + 6);
         C.due("p3 the last end", x.line(9, 1), 78);
+        x = Check.drawn("ink 2;at 4 4;times 12(times 12(east 3;west 3;););");
+        for (int round = 0; round < 3; round++) {
+            C.due("p3 a second drawing begins anew", Check.draw(x, "times 12(times 12(east 3;west 3;););"), 3);
+            C.due("p3 at the first hole", x.line(0, 0), 0);
+            C.due("p3 with the first ink", x.line(0, 2), 0);
+        }
         x = Check.drawn("at 1 1;turn(at 3 3;ink 1;);east 1;");
         C.due("p3 the pen goes on from a block", x.line(0, 0), 39);
         C.due("p3 with its ink", x.line(0, 2), 1);
@@ -170,6 +176,13 @@ public final class DrawingTest {
         faulty("east 1;;", 2, 7);
         faulty("eas 1;", 2, 0);
         faulty("easts 1;", 2, 0);
+        faulty("a 1;", 2, 0);
+        faulty("zz 1;", 2, 0);
+        faulty("easz 1;", 2, 0);
+        faulty("`", 1, 0);
+        faulty("{", 1, 0);
+        faulty("east 1/", 1, 6);
+        faulty("east 1:", 1, 6);
         faulty("east east 1;", 2, 5);
         faulty("eastat 1;", 2, 0);
         faulty("at 1;", 2, 4);
@@ -239,6 +252,7 @@ public final class DrawingTest {
         faulty("at 11 11;knot 1 1; north 1;", 5, 19);
         faulty("at 0 5; northwest 1;", 5, 8);
         faulty("south 1;", 5, 0);
+        faulty("  south 1;", 5, 2);
         faulty("east 3;turn(turn(east 4;););", 5, 17);
         faulty("east 1;times 12(east 1;);", 5, 16);
         String rows = "times 5(east 11;west 11;north 1;);";
@@ -403,6 +417,12 @@ public final class DrawingTest {
         alike("at 7 7;northeast 1;", false, true, false, false);
         alike("at 7 7;knot 2 2;east 1;north 1;", false, false, false, false);
         alike("at 10 10;east 1;north 1;west 1;south 1;", true, true, true, true);
+        alike("at 0 3;north 1;", false, true, true, true);
+        alike("at 3 0;east 1;", false, true, true, true);
+        alike("at 11 3;north 2;", false, true, true, true);
+        alike("at 3 11;east 2;", false, true, true, true);
+        alike("northeast 1;", false, true, false, false);
+        alike("at 11 11;southwest 1;", false, true, false, false);
         alike("at 10 10;east 1;north 1;ink 1;west 1;south 1;", false, false, false, false);
         alike("at 10 10;east 1;ink 1;north 1;ink 0;west 1;ink 1;south 1;", false, true, true, true);
         // a wheel of four hooks: by turns alone

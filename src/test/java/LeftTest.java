@@ -230,6 +230,10 @@ public final class LeftTest {
         C.due("p29 nothing is taken out", x.thread(2), 4);
         unpicked("apart", begun(SQUARE, 100, true), false, -1, -1, -1);
         unpicked("apart", begun(SQUARE, 100, true), true, -1, -1, -1);
+        BothSides all = begun("times 5(east 11;west 11;north 1;);", 0, true);
+        all.work();
+        unpicked("a hundred and twenty", all, false, 0, 0, 0);
+        unpicked("a hundred and twenty", all, true, 0, 0, 0);
         BothSides y = begun("east 2;", 0, true);
         Check.sew(y, "00");
         y.begin(0, 0, true);
@@ -257,7 +261,12 @@ public final class LeftTest {
         x.begin(1, 0, true);
         Check.sew(x, "24620");
         unpicked("first ones alone", x, true, 3, 3, 0);
-        // without any stitch it is where it began, with the first one as it was
+        x = begun("east 2;", 2, true);
+        Check.sew(x, "4");
+        x.begin(0, 0, true);
+        Check.sew(x, "00");
+        // from 1, UNDER, all would go; but without any stitch it is where it began, with the first one as it was
+        unpicked("where it began", x, true, -1, -1, -1);
         BothSides y = begun("east 2;", 0, false);
         Check.sew(y, "00");
         y.begin(1, 0, true);
@@ -307,6 +316,11 @@ public final class LeftTest {
         x.work();
         C.due("p31 as if nothing were worked", x.threads(0, 3), 2);
         C.due("p31 six parts", Check.drawn("east 1;at 0 2;east 1;at 0 4;east 1;at 0 6;east 1;at 0 8;east 1;at 0 10;east 1;").threads(0, 20), 6);
+        C.due("p31 six parts elsewhere", Check.drawn("at 4 1;east 1;at 0 2;east 1;at 0 4;east 1;at 0 6;east 1;at 0 8;east 1;at 0 10;east 1;").threads(0, 2), 6);
+        BothSides inks = Check.drawn("east 6;ink 1;at 1 2;east 6;ink 2;at 2 4;east 6;ink 3;at 3 6;east 6;");
+        for (int ink = 0; ink < 4; ink++) {
+            C.due("p31 six in a row of ink " + ink, inks.threads(ink, 4), 3);
+        }
     }
 
     private static void p31Knots() {
