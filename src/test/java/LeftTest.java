@@ -317,9 +317,13 @@ public final class LeftTest {
         C.due("p31 as if nothing were worked", x.threads(0, 3), 2);
         C.due("p31 six parts", Check.drawn("east 1;at 0 2;east 1;at 0 4;east 1;at 0 6;east 1;at 0 8;east 1;at 0 10;east 1;").threads(0, 20), 6);
         C.due("p31 six parts elsewhere", Check.drawn("at 4 1;east 1;at 0 2;east 1;at 0 4;east 1;at 0 6;east 1;at 0 8;east 1;at 0 10;east 1;").threads(0, 2), 6);
-        BothSides inks = Check.drawn("east 6;ink 1;at 1 2;east 6;ink 2;at 2 4;east 6;ink 3;at 3 6;east 6;");
+        C.due("p31 six parts and six knots", Check.drawn("at 4 1;east 1;knot 5 1;at 0 2;east 1;knot 1 2;at 0 4;east 1;knot 1 4;"
+            + "at 0 6;east 1;knot 1 6;at 0 8;east 1;knot 1 8;at 0 10;east 1;knot 1 10;").threads(0, 2), 6);
+        BothSides inks = Check.drawn("east 6;knot 6 0;ink 1;at 1 2;east 6;knot 7 2;ink 2;at 2 4;east 6;knot 8 4;"
+            + "ink 3;at 3 6;east 6;knot 9 6;");
         for (int ink = 0; ink < 4; ink++) {
-            C.due("p31 six in a row of ink " + ink, inks.threads(ink, 4), 3);
+            C.due("p31 out and back in ink " + ink, inks.threads(ink, 12), 1);
+            C.due("p31 too short for that in ink " + ink, inks.threads(ink, 11), -1);
         }
     }
 
