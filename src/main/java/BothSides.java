@@ -34,13 +34,10 @@ public final class BothSides {
     private static final int TIMES = 11;
     private static final int TURN = 12;
 
-    private final byte[] tape = new byte[MOST_BYTES];
-    private int fed;
     private int fault;
     private int faultPlace;
     private final Drawing drawing;
     private final Drawing sketch;
-    private final Script script;
     private final Reader reader;
     private final Pen pen;
     private final Needle needle;
@@ -55,8 +52,8 @@ public final class BothSides {
         faultPlace = NONE;
         drawing = new Drawing();
         sketch = new Drawing();
-        script = new Script();
-        reader = new Reader(tape, script);
+        Script script = new Script();
+        reader = new Reader(script);
         pen = new Pen(script, sketch);
         needle = new Needle(drawing);
         trial = new Needle(drawing);
@@ -74,31 +71,21 @@ public final class BothSides {
     // ---- the drawing
 
     public int feed(int a, int b, int c, int d, int e) {
-        if (fed > MOST_BYTES - 20) {
+        if (reader.fed > MOST_BYTES - 20) {
             return NONE;
         }
-        feedInt(a);
-        feedInt(b);
-        feedInt(c);
-        feedInt(d);
-        feedInt(e);
-        return fed;
-    }
-
-    private void feedInt(int v) {
-        for (int shift = 24; shift >= 0; shift -= 8) {
-            if (fed >= 0 && fed < tape.length) {
-                tape[fed] = (byte) (v >> shift);
-                fed++;
-            }
-        }
+        reader.take(a);
+        reader.take(b);
+        reader.take(c);
+        reader.take(d);
+        reader.take(e);
+        return reader.fed;
     }
 
     public int drawing(int n) throws IllegalArgumentException {
-        if (n < 0 || n > fed) {
+        if (n < 0 || n > reader.fed) {
             throw new IllegalArgumentException("not so many bytes on the tape");
         }
-        fed = 0;
         reader.read(n);
         fault = reader.fault;
         faultPlace = reader.faultPlace;
@@ -437,7 +424,7 @@ public final class BothSides {
             case 3:
                 return Long.bitCount(needle.over & needle.under);
             case 4:
-                return fed;
+                return reader.fed;
             default:
                 return NONE;
         }
@@ -788,16 +775,17 @@ public final class BothSides {
         }
     }
 
-    /** Makes a script of a TEXT, or tells what stands wrong in it. */
+    /** The tape. Makes a script of the TEXT on it, or tells what stands wrong in it. */
     private static final class Reader {
         private static final int END = 0;
         private static final int WORD = 1;
         private static final int NUMBER = 2;
         private static final int STRANGE = 3;
 
+        int fed;
         int fault;
         int faultPlace;
-        private final byte[] text;
+        private final byte[] tape = new byte[MOST_BYTES];
         private final Script script;
         private int end;
         private int next;
@@ -808,13 +796,24 @@ public final class BothSides {
         private int depth;
         private final int[] open = new int[MOST_OPEN];
 
-        Reader(byte[] text, Script script) {
-            this.text = text;
+        Reader(Script script) {
             this.script = script;
         }
 
+        /** Four bytes more, the highest first. */
+        void take(int bytes) {
+            for (int shift = 24; shift >= 0; shift -= 8) {
+                if (fed >= 0 && fed < tape.length) {
+                    tape[fed] = (byte) (bytes >> shift);
+                    fed++;
+                }
+            }
+        }
+
+        /** Reads the first n bytes; the tape is empty then. */
         void read(int n) {
-            end = Math.min(n, text.length);
+            fed = 0;
+            end = Math.min(n, tape.length);
             next = 0;
             depth = 0;
             fault = 0;
@@ -966,7 +965,7 @@ public final class BothSides {
         }
 
         private int byteAt(int k) {
-            return k >= 0 && k < end && k < text.length ? text[k] & 255 : 0;
+            return k >= 0 && k < end && k < tape.length ? tape[k] & 255 : 0;
         }
 
         private static boolean isLetter(int c) {
