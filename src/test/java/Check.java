@@ -5,6 +5,11 @@ final class Check {
         long answer();
     }
 
+    static final String NO_SUCH = "java.util.NoSuchElementException";
+    static final String WRONG = "java.lang.IllegalArgumentException";
+    static final String STATE = "java.lang.IllegalStateException";
+    static final String OUTSIDE = "java.lang.IndexOutOfBoundsException";
+
     private int wrong = 0;
     private int calls = 0;
 
@@ -66,6 +71,12 @@ final class Check {
         return x;
     }
 
+    static BothSides begun(String text, int hole, boolean over) {
+        BothSides x = drawn(text);
+        x.begin(hole, 0, over);
+        return x;
+    }
+
     /** Sews by WAYS, each a digit; how many could be. */
     static int sew(BothSides x, String ways) {
         for (int k = 0; k < ways.length(); k++) {
@@ -74,6 +85,28 @@ final class Check {
             }
         }
         return ways.length();
+    }
+
+    /** Each LINE is worked on one face by a THREAD of its own, which is cut. */
+    static void work(BothSides x, boolean over, int... lines) {
+        for (int line : lines) {
+            int from = x.line(line, 0);
+            x.begin(from, x.line(line, 2), over);
+            for (int way = 0; way < 8; way++) {
+                if (x.lineAt(from, way) == line) {
+                    x.stitch(way);
+                }
+            }
+            x.cut();
+        }
+    }
+
+    /** A TRAY of a sort with these numbers. */
+    static void lay(BothSides x, int tray, int sort, long... row) {
+        x.tray(tray, sort, row.length);
+        for (int k = 0; k < row.length; k++) {
+            x.write(tray, k, row[k]);
+        }
     }
 
     static String working(BothSides x) {

@@ -26,12 +26,6 @@ public final class LeftTest {
         C.end();
     }
 
-    private static BothSides begun(String text, int hole, boolean over) {
-        BothSides x = Check.drawn(text);
-        x.begin(hole, 0, over);
-        return x;
-    }
-
     private static void p23Left() {
         BothSides x = Check.drawn(SQUARE + "ink 1;east 3;");
         C.throwing("p23 no thread", STATE, x::left);
@@ -65,12 +59,12 @@ public final class LeftTest {
         C.throwing("p24 what", WRONG, () -> none.barred(2));
         C.throwing("p24 what", WRONG, () -> none.barred(-1));
         bars("a square", none, 0, -1);
-        bars("far away", begun(SQUARE, 143, true), 1, 0);
-        bars("nothing left", begun("ink 1;east 1;", 143, true), 0, -1);
-        bars("lines of another ink lead no further", begun("east 1;ink 1;east 1;ink 0;east 1;", 0, true), 1, 2);
-        bars("crossed lines don't hang together", begun("northeast 1;at 1 0;northwest 1;", 0, true), 1, 1);
-        bars("the first such line", begun("at 5 5;east 1;at 0 0;east 1;at 9 9;east 1;", 0, false), 1, 0);
-        BothSides x = begun("east 3;", 0, true);
+        bars("far away", Check.begun(SQUARE, 143, true), 1, 0);
+        bars("nothing left", Check.begun("ink 1;east 1;", 143, true), 0, -1);
+        bars("lines of another ink lead no further", Check.begun("east 1;ink 1;east 1;ink 0;east 1;", 0, true), 1, 2);
+        bars("crossed lines don't hang together", Check.begun("northeast 1;at 1 0;northwest 1;", 0, true), 1, 1);
+        bars("the first such line", Check.begun("at 5 5;east 1;at 0 0;east 1;at 9 9;east 1;", 0, false), 1, 0);
+        BothSides x = Check.begun("east 3;", 0, true);
         Check.sew(x, "0");
         bars("in a row", x, 0, -1);
         Check.sew(x, "4");
@@ -83,7 +77,7 @@ public final class LeftTest {
 
     private static void p24SecondHole() {
         // over along a row of two lines and cut: over and under are left by turns
-        BothSides x = begun("east 2;", 0, true);
+        BothSides x = Check.begun("east 2;", 0, true);
         Check.sew(x, "00");
         x.begin(0, 0, true);
         bars("more than one too many", x, 2, 0);
@@ -117,11 +111,11 @@ public final class LeftTest {
     private static void p25Ending() {
         BothSides none = Check.drawn(SQUARE);
         C.throwing("p25 no thread", STATE, none::ending);
-        C.due("p25 back to the beginning", begun(SQUARE, 13, false).ending(), 13);
-        C.due("p25 a row from its middle", begun("at 3 3;east 2;", 40, true).ending(), 40);
-        C.due("p25 apart", begun(SQUARE, 14, true).ending(), -1);
-        C.due("p25 nothing left", begun("", 77, true).ending(), 77);
-        BothSides x = begun("at 3 3;east 3;", 39, true);
+        C.due("p25 back to the beginning", Check.begun(SQUARE, 13, false).ending(), 13);
+        C.due("p25 a row from its middle", Check.begun("at 3 3;east 2;", 40, true).ending(), 40);
+        C.due("p25 apart", Check.begun(SQUARE, 14, true).ending(), -1);
+        C.due("p25 nothing left", Check.begun("", 77, true).ending(), 77);
+        BothSides x = Check.begun("at 3 3;east 3;", 39, true);
         Check.sew(x, "000");
         C.due("p25 back by the other faces", x.ending(), 39);
         x.begin(39, 0, false);
@@ -135,12 +129,12 @@ public final class LeftTest {
         C.throwing("p26 no thread", STATE, () -> none.working(0));
         none.begin(0, 0, true);
         C.due("p26 a square", Check.working(none), "02406426");
-        C.due("p26 from its corner", Check.working(begun(SQUARE, 13, false)), "40642602");
-        C.due("p26 with a tail", Check.working(begun("east 1;" + SQUARE, 0, true)), "0024064264");
-        C.due("p26 to and fro at once", Check.working(begun("at 3 3;east 2;", 39, true)), "0044");
-        C.due("p26 from the middle", Check.working(begun("at 3 3;east 2;", 40, true)), "0440");
-        C.due("p26 the least way that still can", Check.working(begun("at 5 5;east 1;at 5 5;southeast 1;", 65, true)), "0473");
-        BothSides x = begun("east 3;", 1, true);
+        C.due("p26 from its corner", Check.working(Check.begun(SQUARE, 13, false)), "40642602");
+        C.due("p26 with a tail", Check.working(Check.begun("east 1;" + SQUARE, 0, true)), "0024064264");
+        C.due("p26 to and fro at once", Check.working(Check.begun("at 3 3;east 2;", 39, true)), "0044");
+        C.due("p26 from the middle", Check.working(Check.begun("at 3 3;east 2;", 40, true)), "0440");
+        C.due("p26 the least way that still can", Check.working(Check.begun("at 5 5;east 1;at 5 5;southeast 1;", 65, true)), "0473");
+        BothSides x = Check.begun("east 3;", 1, true);
         C.due("p26 east and west", Check.working(x), "004440");
         C.due("p26 how many", x.working(-1), 6);
         C.due("p26 the first", x.working(0), 0);
@@ -149,13 +143,13 @@ public final class LeftTest {
         C.due("p26 below NONE", x.working(-2), -1);
         C.due("p26 far above", x.working(Integer.MAX_VALUE), -1);
         C.due("p26 nothing is done", x.thread(2), 0);
-        BothSides far = begun(SQUARE, 143, true);
+        BothSides far = Check.begun(SQUARE, 143, true);
         C.due("p26 there is none", far.working(-1), -1);
         C.due("p26 nor a stitch of it", far.working(0), -1);
-        C.due("p26 nothing left", begun("", 5, true).working(-1), 0);
-        C.due("p26 nothing left, its first", begun("", 5, true).working(0), -1);
-        C.due("p26 a star", Check.working(begun(STAR, 13, true)), "0415263740516273");
-        C.due("p26 turned", Check.working(begun("at 5 5;turn(" + SQUARE + ");", 65, true)), "24064260");
+        C.due("p26 nothing left", Check.begun("", 5, true).working(-1), 0);
+        C.due("p26 nothing left, its first", Check.begun("", 5, true).working(0), -1);
+        C.due("p26 a star", Check.working(Check.begun(STAR, 13, true)), "0415263740516273");
+        C.due("p26 turned", Check.working(Check.begun("at 5 5;turn(" + SQUARE + ");", 65, true)), "24064260");
     }
 
     private static void p27Work() {
@@ -176,12 +170,12 @@ public final class LeftTest {
         x.begin(40, 1, true);
         C.due("p27 there is none", x.work(), -1);
         C.due("p27 nothing happens", x.thread(2), 0);
-        x = begun("east 3;", 0, true);
+        x = Check.begun("east 3;", 0, true);
         Check.sew(x, "00");
         C.due("p27 from where it is", x.work(), 4);
         C.due("p27 six in all", x.thread(2), 6);
         C.due("p27 back", x.thread(0), 0);
-        BothSides all = begun("times 5(east 11;west 11;north 1;);", 30, true);
+        BothSides all = Check.begun("times 5(east 11;west 11;north 1;);", 30, true);
         C.due("p27 sixty lines", all.work(), 120);
         C.due("p27 all are alike", all.same() && all.count(3) == 60, true);
     }
@@ -189,21 +183,21 @@ public final class LeftTest {
     private static void p28Ways() {
         BothSides none = Check.drawn(SQUARE);
         C.throwing("p28 no thread", STATE, none::ways);
-        C.due("p28 nothing left", begun("", 0, true).ways(), 1);
-        C.due("p28 barred", begun(SQUARE, 50, true).ways(), 0);
-        C.due("p28 a line", begun("east 1;", 1, true).ways(), 1);
-        C.due("p28 a row from its middle", begun("east 2;", 1, true).ways(), 2);
-        C.due("p28 sixteen left: 8 7 6 5 4 3 2", begun(STAR, 13, true).ways(), 40320);
-        C.due("p28 from a ray's end", begun(STAR, 14, true).ways(), 5040);
-        BothSides x = begun(STAR + "at 2 1;east 1;", 13, true);
+        C.due("p28 nothing left", Check.begun("", 0, true).ways(), 1);
+        C.due("p28 barred", Check.begun(SQUARE, 50, true).ways(), 0);
+        C.due("p28 a line", Check.begun("east 1;", 1, true).ways(), 1);
+        C.due("p28 a row from its middle", Check.begun("east 2;", 1, true).ways(), 2);
+        C.due("p28 sixteen left: 8 7 6 5 4 3 2", Check.begun(STAR, 13, true).ways(), 40320);
+        C.due("p28 from a ray's end", Check.begun(STAR, 14, true).ways(), 5040);
+        BothSides x = Check.begun(STAR + "at 2 1;east 1;", 13, true);
         C.due("p28 eighteen left", x.ways(), -2);
-        C.due("p28 too many, though barred", begun(STAR + "at 2 1;east 1;", 143, true).ways(), -2);
+        C.due("p28 too many, though barred", Check.begun(STAR + "at 2 1;east 1;", 143, true).ways(), -2);
         Check.sew(x, "2");
         C.due("p28 seventeen left", x.ways(), -2);
         Check.sew(x, "6");
         C.due("p28 sixteen again", x.ways() > 0, true);
-        C.due("p28 of its ink alone", begun("east 1;ink 1;" + STAR, 0, false).ways(), 1);
-        BothSides y = begun("at 1 1;east 1;at 1 1;west 1;at 1 1;north 1;", 13, true);
+        C.due("p28 of its ink alone", Check.begun("east 1;ink 1;" + STAR, 0, false).ways(), 1);
+        BothSides y = Check.begun("at 1 1;east 1;at 1 1;west 1;at 1 1;north 1;", 13, true);
         C.due("p28 six", y.ways(), 6);
         Check.sew(y, "0");
         C.due("p28 behind one", y.ways(), 2);
@@ -224,17 +218,17 @@ public final class LeftTest {
         C.throwing("p29 what", WRONG, () -> none.unpicked(true, -1));
         unpicked("none needed", none, false, 0, 0, 0);
         unpicked("none needed", none, true, 0, 0, 0);
-        BothSides x = begun("east 3;", 1, true);
+        BothSides x = Check.begun("east 3;", 1, true);
         Check.sew(x, "0440");
         unpicked("back in the middle", x, false, 3, 0, 3);
         C.due("p29 nothing is taken out", x.thread(2), 4);
-        unpicked("apart", begun(SQUARE, 100, true), false, -1, -1, -1);
-        unpicked("apart", begun(SQUARE, 100, true), true, -1, -1, -1);
-        BothSides all = begun("times 5(east 11;west 11;north 1;);", 0, true);
+        unpicked("apart", Check.begun(SQUARE, 100, true), false, -1, -1, -1);
+        unpicked("apart", Check.begun(SQUARE, 100, true), true, -1, -1, -1);
+        BothSides all = Check.begun("times 5(east 11;west 11;north 1;);", 0, true);
         all.work();
         unpicked("a hundred and twenty", all, false, 0, 0, 0);
         unpicked("a hundred and twenty", all, true, 0, 0, 0);
-        BothSides y = begun("east 2;", 0, true);
+        BothSides y = Check.begun("east 2;", 0, true);
         Check.sew(y, "00");
         y.begin(0, 0, true);
         unpicked("stitches of a cut thread stay", y, false, -1, -1, -1);
@@ -242,38 +236,38 @@ public final class LeftTest {
 
     private static void p29UnpickedFromBothEnds() {
         // the stitch over that is taken out ahead joins what is left again
-        BothSides x = begun("east 3;", 2, true);
+        BothSides x = Check.begun("east 3;", 2, true);
         Check.sew(x, "400");
         unpicked("from the end", x, false, 2, 0, 2);
         unpicked("from both ends", x, true, 1, 1, 0);
         C.due("p29 nothing is taken out", x.thread(2) + x.thread(4), 5);
-        x = begun("east 3;", 3, true);
+        x = Check.begun("east 3;", 3, true);
         Check.sew(x, "440");
         unpicked("the least i", x, true, 1, 0, 1);
-        x = begun(SQUARE, 1, true);
+        x = Check.begun(SQUARE, 1, true);
         Check.sew(x, "2");
         x.begin(0, 0, true);
         Check.sew(x, "02462");
         unpicked("never from the end alone", x, false, -1, -1, -1);
         unpicked("one from each end", x, true, 2, 1, 1);
-        x = begun(SQUARE, 1, true);
+        x = Check.begun(SQUARE, 1, true);
         Check.sew(x, "4");
         x.begin(1, 0, true);
         Check.sew(x, "24620");
         unpicked("first ones alone", x, true, 3, 3, 0);
-        x = begun("east 2;", 2, true);
+        x = Check.begun("east 2;", 2, true);
         Check.sew(x, "4");
         x.begin(0, 0, true);
         Check.sew(x, "00");
         // from 1, UNDER, all would go; but without any stitch it is where it began, with the first one as it was
         unpicked("where it began", x, true, -1, -1, -1);
-        BothSides y = begun("east 2;", 0, false);
+        BothSides y = Check.begun("east 2;", 0, false);
         Check.sew(y, "00");
         y.begin(1, 0, true);
         Check.sew(y, "4");
         unpicked("not without the only one", y, false, -1, -1, -1);
         unpicked("nor from both ends", y, true, -1, -1, -1);
-        BothSides z = begun("east 3;", 3, true);
+        BothSides z = Check.begun("east 3;", 3, true);
         Check.sew(z, "440");
         C.due("p29 all of them", z.unpick(3), 0);
         unpicked("then none", z, true, 0, 0, 0);
@@ -284,7 +278,7 @@ public final class LeftTest {
         C.due("p30 a square", Check.drawn(SQUARE).places(0), 8);
         C.due("p30 another ink", Check.drawn(SQUARE).places(1), 288);
         C.due("p30 two parts", Check.drawn("east 1;at 5 5;east 1;").places(0), 0);
-        BothSides x = begun("east 3;", 0, true);
+        BothSides x = Check.begun("east 3;", 0, true);
         Check.sew(x, "000");
         // left are under, over, under: from both ends, under first
         C.due("p30 as it is worked now", x.places(0), 2);
@@ -312,7 +306,7 @@ public final class LeftTest {
         C.due("p31 seven lines", Check.drawn("east 7;").threads(0, 20), -2);
         C.due("p31 seven of two inks", Check.drawn("east 6;ink 1;east 1;").threads(0, 20), 1);
         C.due("p31 two parts", Check.drawn("east 1;at 5 5;east 1;").threads(0, 20), 2);
-        BothSides x = begun("east 2;", 0, true);
+        BothSides x = Check.begun("east 2;", 0, true);
         x.work();
         C.due("p31 as if nothing were worked", x.threads(0, 3), 2);
         C.due("p31 six parts", Check.drawn("east 1;at 0 2;east 1;at 0 4;east 1;at 0 6;east 1;at 0 8;east 1;at 0 10;east 1;").threads(0, 20), 6);

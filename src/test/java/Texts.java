@@ -2,6 +2,13 @@ import java.util.Random;
 
 /** Texts of drawings: small ones, crowded ones, wrong ones. */
 final class Texts {
+    static final String SQUARE = "east 1;north 1;west 1;south 1;";
+    /** Sixty LINES, from 0, 0 to 0, 5. */
+    static final String ROWS = "times 5(east 11;west 11;north 1;);";
+    /** A LINE from HOLE 65 by each WAY, numbered as these. */
+    static final String STAR = "at 5 5;east 1;at 5 5;northeast 1;at 5 5;north 1;at 5 5;northwest 1;at 5 5;west 1;"
+        + "at 5 5;southwest 1;at 5 5;south 1;at 5 5;southeast 1;";
+
     private static final String[] SOUP = {"at", "ink", "knot", "times", "turn", "mirror", "east", "northeast", "north",
         "northwest", "west", "southwest", "south", "southeast", ";", ";", "(", ")", "1", "3", "12", "007", "0", "13",
         "1000", "0001", "eas", "norths", "at3", "A", "\t", "-", "\u00e4", "\n", "turn(", "turn(", "east 1;", "east 1;"};

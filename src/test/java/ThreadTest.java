@@ -189,13 +189,6 @@ public final class ThreadTest {
         C.due("p20 not of a cut one", x.done(0), -1);
     }
 
-    private static void tell(BothSides x, int tray, int sort, long... row) {
-        x.tray(tray, sort, row.length);
-        for (int k = 0; k < row.length; k++) {
-            x.write(tray, k, row[k]);
-        }
-    }
-
     private static void judged(String what, BothSides x, int tray, int... due) {
         for (int k = 0; k < 4; k++) {
             C.due("p21 " + what + ", " + k, x.judge(tray, k), due[k]);
@@ -205,31 +198,31 @@ public final class ThreadTest {
     private static void p21Judge() {
         BothSides x = Check.drawn(SQUARE);
         x.begin(0, 0, true);
-        tell(x, 0, 0, 0, 2, 4, 6);
+        Check.lay(x, 0, 0, 0, 2, 4, 6);
         judged("all can", x, 0, -1, 0, 0, 4);
-        tell(x, 1, 3, 0, 2, 3, 6);
+        Check.lay(x, 1, 3, 0, 2, 3, 6);
         judged("no line", x, 1, 2, 2, 13, 6);
-        tell(x, 2, 2, 0, 4, 0, 2);
+        Check.lay(x, 2, 2, 0, 4, 0, 2);
         judged("worked", x, 2, 2, 3, 0, 6);
-        tell(x, 3, 1);
+        Check.lay(x, 3, 1);
         judged("no numbers", x, 3, -1, 0, 0, 8);
-        tell(x, 3, 1, 0, 8, 0);
+        Check.lay(x, 3, 1, 0, 8, 0);
         judged("no such way", x, 3, 1, 2, 1, 7);
-        tell(x, 3, 1, 0, -1, 0);
+        Check.lay(x, 3, 1, 0, -1, 0);
         judged("below the ways", x, 3, 1, 2, 1, 7);
-        tell(x, 3, 3, 0, 1L << 32, 0);
+        Check.lay(x, 3, 3, 0, 1L << 32, 0);
         judged("far above the ways", x, 3, 1, 2, 1, 7);
-        tell(x, 3, 3, Long.MIN_VALUE + 2);
+        Check.lay(x, 3, 3, Long.MIN_VALUE + 2);
         judged("far below the ways", x, 3, 0, 2, 0, 8);
-        tell(x, 3, 0, 258);
+        Check.lay(x, 3, 0, 258);
         judged("cut to a way", x, 3, -1, 0, 12, 7);
         C.due("p21 nothing stays", x.left(), 8);
         C.due("p21 nothing is worked", x.seen(true) + x.seen(false), 0);
         C.due("p21 no stitch", x.thread(2), 0);
         Check.sew(x, "02");
-        tell(x, 0, 0, 4, 6, 2);
+        Check.lay(x, 0, 0, 4, 6, 2);
         judged("from where it is", x, 0, -1, 0, 12, 3);
-        tell(x, 0, 0, 4, 6, 0, 2);
+        Check.lay(x, 0, 0, 4, 6, 0, 2);
         judged("worked by what it tells and what was", x, 0, 2, 3, 0, 4);
         C.due("p21 the hole stays", x.thread(0), 13);
         C.due("p21 the way stays", x.done(2), -1);
@@ -237,7 +230,7 @@ public final class ThreadTest {
         for (int k = 0; k < 40; k++) {
             rounds[k] = k % 2 == 0 ? 4 : 0;
         }
-        tell(x, 1, 0, rounds);
+        Check.lay(x, 1, 0, rounds);
         judged("forty of them", x, 1, 2, 3, 13, 4);
     }
 
@@ -264,19 +257,19 @@ public final class ThreadTest {
         C.throwing("p22 no thread", STATE, () -> x.perform(0));
         x.begin(0, 0, true);
         C.throwing("p22 missing", STATE, () -> x.perform(3));
-        tell(x, 1, 0, 0, 2, 3, 4);
+        Check.lay(x, 1, 0, 0, 2, 3, 4);
         C.due("p22 till one can't be", x.perform(1), 2);
         C.due("p22 they are done", x.thread(2), 2);
         C.due("p22 there", x.thread(0), 13);
         C.due("p22 nothing more can", x.perform(1), 0);
-        tell(x, 1, 2, 4, 6, 2, 300);
+        Check.lay(x, 1, 2, 4, 6, 2, 300);
         C.due("p22 till no way", x.perform(1), 3);
         C.due("p22 worked", x.line(3, 3), 3);
         C.due("p22 the way", x.done(4), 2);
-        tell(x, 2, 3, 0, 6, 4);
+        Check.lay(x, 2, 3, 0, 6, 4);
         C.due("p22 all", x.perform(2), 3);
         C.due("p22 nothing left", x.left(), 0);
-        tell(x, 2, 3);
+        Check.lay(x, 2, 3);
         C.due("p22 of none", x.perform(2), 0);
     }
 }
