@@ -14,14 +14,17 @@ import java.util.TreeSet;
 public final class FaceTest {
     private static final Check C = new Check();
     private static final String SOURCE = "src/main/java/BothSides.java";
+    /** Behind each call its throws in their order: S no such element, A argument, I state, B out of bounds. */
     private static final List<String> FACE = List.of(
-        "int feed(int,int,int,int,int)", "int drawing(int)", "int fault(int)", "int line(int,int)", "int lineAt(int,int)",
-        "int ends(int,int)", "int knot(int)", "int parts(int)", "int partOf(int)", "int length(int)", "int crossings(boolean)",
-        "boolean alike(int)", "void begin(int,int,boolean)", "int cut()", "int may(int)", "int stitch(int)", "int unpick(int)",
-        "int thread(int)", "int done(int)", "int judge(int,int)", "int perform(int)", "int left()", "int barred(int)",
-        "int ending()", "int working(int)", "int work()", "int ways()", "int unpicked(boolean,int)", "int places(int)",
-        "int threads(int,int)", "int seen(boolean)", "boolean same()", "int sameAt(int)", "int unlike(int)",
-        "void tray(int,int,int)", "long write(int,int,long)", "void image(int)", "void restore(int)", "int count(int)");
+        "int feed(int,int,int,int,int)", "int drawing(int) A", "int fault(int)", "int line(int,int) S A",
+        "int lineAt(int,int) S", "int ends(int,int) S A", "int knot(int)", "int parts(int) A", "int partOf(int) S",
+        "int length(int) A", "int crossings(boolean)", "boolean alike(int) A", "void begin(int,int,boolean) S A", "int cut() I",
+        "int may(int) S", "int stitch(int) S", "int unpick(int) I A", "int thread(int) I A", "int done(int) I",
+        "int judge(int,int) S I A", "int perform(int) S I", "int left() I", "int barred(int) I A", "int ending() I",
+        "int working(int) I", "int work() I", "int ways() I", "int unpicked(boolean,int) I A", "int places(int) A",
+        "int threads(int,int) A", "int seen(boolean)", "boolean same()", "int sameAt(int) I", "int unlike(int) S",
+        "void tray(int,int,int) S A", "long write(int,int,long) S I B", "void image(int) S", "void restore(int) S I",
+        "int count(int)");
     private static final List<String> FORBIDDEN = List.of("->", "::", "catch", "finally", "synchronized", "assert",
         "@", "static {", "Exact(", "instanceof", "Object", "float", "double", "while (true)", "for (;;)", "hashCode",
         "equals(", "System.out", "Random", "Thread.", "nanoTime", "currentTimeMillis", "String.format", "\" +", "+ \"");
@@ -46,7 +49,7 @@ public final class FaceTest {
                 for (Class<?> type : m.getParameterTypes()) {
                     types.append(types.length() == 0 ? "" : ",").append(type.getName());
                 }
-                found.add(m.getReturnType().getName() + " " + m.getName() + "(" + types + ")");
+                found.add(m.getReturnType().getName() + " " + m.getName() + "(" + types + ")" + told(m));
             }
         }
         C.due("the face's methods", found.toString(), new TreeSet<>(FACE).toString());
@@ -66,6 +69,24 @@ public final class FaceTest {
             fields(inner);
         }
         C.due("classes", BothSides.class.getDeclaredClasses().length <= 11, true);
+    }
+
+    private static String told(Method m) {
+        StringBuilder row = new StringBuilder();
+        for (Class<?> thrown : m.getExceptionTypes()) {
+            row.append(" ").append(letter(thrown.getSimpleName()));
+        }
+        return row.toString();
+    }
+
+    private static String letter(String name) {
+        switch (name) {
+            case "NoSuchElementException": return "S";
+            case "IllegalArgumentException": return "A";
+            case "IllegalStateException": return "I";
+            case "IndexOutOfBoundsException": return "B";
+            default: return name;
+        }
     }
 
     private static void fields(Class<?> of) {

@@ -28,6 +28,7 @@ public final class LeftEdgesTest {
         p30Places();
         p31Lengths();
         p31SixLines();
+        p31TwiceThrough();
         p31Knots();
         C.end();
     }
@@ -297,6 +298,14 @@ public final class LeftEdgesTest {
         inks.begin(65, 1, true);
         C.due("p28 sixteen of the other one", inks.ways(), 40320);
         C.due("p28 one left", begunBehind("east 1;", 0).ways(), 1);
+        // two squares that meet at HOLE 65, of each LINE one face, by turns: either square first
+        BothSides faces = Check.drawn("at 5 5;east 1;north 1;west 1;south 1;west 1;south 1;east 1;north 1;");
+        Check.work(faces, false, 0, 2, 4, 6);
+        Check.work(faces, true, 1, 3, 5, 7);
+        faces.begin(65, 0, true);
+        C.due("p28 no line has both faces left", faces.ways(), 2);
+        faces.begin(65, 0, false);
+        C.due("p28 nor from the other face", faces.ways(), 2);
     }
 
     private static BothSides begunBehind(String text, int line) {
@@ -490,6 +499,19 @@ public final class LeftEdgesTest {
             C.due("p31 as if nothing were worked, behind " + n, worked.threads(0, 4), 1);
             worked.stitch(n < 2 ? 0 : 4);
         }
+    }
+
+    /** A THREAD that comes twice through the HOLE from which the first LINE was drawn, on another face each time. */
+    private static void p31TwiceThrough() {
+        String ways = "at 5 5;east 1;northwest 1;south 1;west 1;at 5 5;south 1;";
+        BothSides x = Check.drawn(ways + "knot 4 5;knot 5 4;");
+        C.due("p31 once in, round and out on each face", x.threads(0, 5), 2);
+        C.due("p31 too short to go round", x.threads(0, 4), -1);
+        C.due("p31 not yet all in one", x.threads(0, 9), 2);
+        C.due("p31 all in one", x.threads(0, 10), 1);
+        C.due("p31 no knots, all in one", Check.drawn(ways).threads(0, 10), 1);
+        C.due("p31 no knots, by three", Check.drawn(ways).threads(0, 3), 4);
+        C.due("p31 no knots, by one", Check.drawn(ways).threads(0, 1), 10);
     }
 
     /** "that begin and end at KNOTS (at any HOLES, if there are no KNOTS)". */

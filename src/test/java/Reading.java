@@ -136,7 +136,7 @@ final class Reading {
         }
     }
 
-    /** All answers behind a story: as it is, with each IMAGE in its place, and what places and sorts TRAYS have. */
+    /** All answers behind a story: as it is, with each IMAGE in its place, what TRAYS have and what the tape has. */
     static String of(Story story) {
         StringBuilder told = new StringBuilder();
         List<Call> asked = asked();
@@ -153,7 +153,7 @@ final class Reading {
                 told.append(asked.get(k).told()).append('=').append(answer(x, asked.get(k))).append(' ');
             }
         }
-        return told.append(trays(story)).toString();
+        return told.append(judged(story)).append(trays(story)).append(tape(story)).toString();
     }
 
     /** An object behind its story, and as in an IMAGE then; null if none was made. */
@@ -163,11 +163,32 @@ final class Reading {
         return image < 0 || answer(x, new Call("restore", image)).equals("null") ? x : null;
     }
 
+    /** What TRAYS tell to a THREAD from each HOLE, where there is none to judge them. */
+    private static String judged(Story story) {
+        StringBuilder told = new StringBuilder();
+        BothSides x = told(story, -1);
+        for (int hole : HOLES) {
+            for (int face = 0; face < 2; face++) {
+                x.begin(hole, 0, face == 1);
+                for (int tray = 0; tray < 4; tray++) {
+                    told.append(answer(x, "judge", tray, 0)).append(' ').append(answer(x, "judge", tray, 2)).append(' ');
+                }
+            }
+        }
+        return told.toString();
+    }
+
+    /** What the bytes of the tape come to. */
+    private static String tape(Story story) {
+        BothSides x = told(story, -1);
+        int got = x.drawing(x.count(4));
+        return "tape: " + got + " " + x.fault(0) + " " + x.fault(1) + " " + (got > 0 ? x.line(got - 1, 1) : -1);
+    }
+
     /** How many places each TRAY has, and what a great number is in its last one. */
     private static String trays(Story story) {
         StringBuilder told = new StringBuilder();
-        BothSides x = new BothSides();
-        story.tell(x);
+        BothSides x = told(story, -1);
         for (int tray = 0; tray < 4; tray++) {
             for (int place = 0; place < 41; place++) {
                 String got = answer(x, new Call("write", tray, place, 0x8f9fafbfcfdfefffL));

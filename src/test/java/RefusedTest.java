@@ -67,9 +67,10 @@ public final class RefusedTest {
         x.image(0);
         Check.draw(x, "at 1 1;east 1;ink 1;north 1;knot 3 3;northwest 1;");
         Check.draw(x, "knot 1 1;east 12;");
-        Check.lay(x, 0, 0, 0, 1, 2);
+        Check.lay(x, 0, 0, 0, 4, 2);
         x.tray(2, 1, 0);
         x.tray(3, 3, 40);
+        x.write(3, 1, 4);
         feed(x, 1);
     }
 
@@ -107,7 +108,7 @@ public final class RefusedTest {
         x.image(1);
         x.cut();
         Check.lay(x, 0, 3, 1L << 32);
-        Check.lay(x, 1, 2, 5, 6);
+        Check.lay(x, 1, 2, 4, 6);
     }
 
     private static void allWorked(BothSides x) {
