@@ -1,7 +1,5 @@
 import java.util.ArrayList;
-import java.util.LinkedHashMap;
 import java.util.List;
-import java.util.Map;
 
 /**
  * Calls that are refused, in all sorts of states: "of several throws of a call that one comes that is told first",
@@ -333,13 +331,9 @@ public final class RefusedTest {
             before.substring(Math.min(from, before.length()), Math.min(k + 20, before.length())));
     }
 
-    /** To ask changes nothing: of each call once, with the arguments that are asked last. */
+    /** To ask changes nothing. */
     private static void asking(Place p, String before) {
-        Map<String, Reading.Call> calls = new LinkedHashMap<>();
         for (Reading.Call call : Reading.asked()) {
-            calls.put(call.name(), call);
-        }
-        for (Reading.Call call : calls.values()) {
             unchanged(p.name + ": asked " + call.told(), before, y -> {
                 p.story.tell(y);
                 Reading.answer(y, call);
