@@ -603,6 +603,15 @@ public final class DrawingEdgesTest {
                 }
             }
         }
+        // turned, they would lead off the cloth
+        for (int k = 0; k < 11; k++) {
+            String[] border = {"at " + k + " 11;east 1;", "at " + k + " 0;east 1;", "at 11 " + k + ";north 1;", "at 0 " + k + ";north 1;"};
+            for (String line : border) {
+                BothSides x = Check.drawn(line);
+                C.due("p13 along the border by a quarter turn: " + line, x.alike(0), false);
+                C.due("p13 along the border by others: " + line, x.alike(1) && x.alike(2) && x.alike(3), true);
+            }
+        }
         BothSides wide = Check.drawn("at 0 5;east 11;");
         C.due("p13 as wide as the cloth, by a quarter turn", wide.alike(0), false);
         C.due("p13 by a half one", wide.alike(1) && wide.alike(2) && wide.alike(3), true);
