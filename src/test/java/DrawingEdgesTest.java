@@ -619,5 +619,7 @@ public final class DrawingEdgesTest {
         C.due("p13 round the cloth", rim.alike(0) && rim.alike(1) && rim.alike(2) && rim.alike(3), true);
         BothSides two = Check.drawn("east 1;at 10 11;ink 1;east 1;");
         C.due("p13 the same lines, not the same inks", two.alike(1), false);
+        BothSides knots = Check.drawn("knot 0 0;knot 3 9;knot 6 6;at 5 5;" + Texts.SQUARE);
+        C.due("p13 knots don't count", knots.alike(0) && knots.alike(1) && knots.alike(2) && knots.alike(3), true);
     }
 }

@@ -30,6 +30,7 @@ public final class LeftEdgesTest {
         p31SixLines();
         p31TwiceThrough();
         p31Knots();
+        p31EachOnce();
         C.end();
     }
 
@@ -532,5 +533,14 @@ public final class LeftEdgesTest {
         C.due("p31 each part has one", Check.drawn(row + "at 9 9;east 1;knot 4 4;knot 9 9;").threads(0, 20), 2);
         C.due("p31 knots of one ink's lines serve another's", Check.drawn("east 1;knot 1 0;ink 1;east 1;").threads(1, 2), 1);
         C.due("p31 the corners of the cloth", Check.drawn("at 10 11;east 1;knot 11 11;").threads(0, 2), 1);
+    }
+
+    /** "each LINE of that INK is worked on both faces, each once": no THREAD goes again where one went. */
+    private static void p31EachOnce() {
+        BothSides x = Check.drawn("at 6 4;knot 6 4;north 1;east 1;west 2;");
+        C.due("p31 both by one thread", x.threads(0, 6), 1);
+        C.due("p31 one thread can't be so long", x.threads(0, 5), -1);
+        C.due("p31 two would go along the first line twice", x.threads(0, 4), -1);
+        C.due("p31 no knots, two threads", Check.drawn("at 6 4;north 1;east 1;west 2;").threads(0, 4), 2);
     }
 }
